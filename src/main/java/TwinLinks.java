@@ -457,11 +457,14 @@ public final class TwinLinks {
         }
 
         void insert(int l, int slot, int i, int other) {
-            int length = lengthOf(l, slot);
-            if (!isRow(l, slot) || !isSlot(other) || i < 0 || i > length || length >= MAX_ROW) {
+            if (!isRow(l, slot) || !isSlot(other)) {
                 return;
             }
             int row = rowOf(l, slot);
+            int length = lengths[row];
+            if (i < 0 || i > length || length >= MAX_ROW) {
+                return;
+            }
             for (int k = length; k > i; k--) {
                 write(row, k, read(row, k - 1));
             }
