@@ -13,6 +13,9 @@ public final class TwinLinks {
     private static final int KINDS = 10;
     private static final int FORMS = 3;
     private static final int RULES = 3;
+    private static final int SIDES = 2;
+    private static final int QUESTIONS = 6;
+    private static final int COUNTS = 6;
     private static final int ONE_TO_ONE = 0;
     private static final int MANY_TO_MANY = 2;
     private static final int OWNS = 1;
@@ -138,7 +141,7 @@ public final class TwinLinks {
     }
 
     public int ask(int x, int what) throws IllegalArgumentException, NoSuchElementException {
-        needBelow(what, 6);
+        needBelow(what, QUESTIONS);
         int slot = slotThere(x);
         switch (what) {
             case 0:
@@ -159,7 +162,7 @@ public final class TwinLinks {
     public int size(int l, int x, int side) throws IllegalArgumentException, NoSuchElementException,
             ClassCastException {
         needLink(l);
-        needBelow(side, 2);
+        needBelow(side, SIDES);
         int slot = slotThere(x);
         needKind(slot, side == 0 ? told.fromKind(l) : told.toKind(l));
         Rows rows = side == 0 ? house.has() : house.had();
@@ -211,7 +214,7 @@ public final class TwinLinks {
     }
 
     public int count(int what) throws IllegalArgumentException {
-        needBelow(what, 6);
+        needBelow(what, COUNTS);
         switch (what) {
             case 0:
                 return told.howMany();
@@ -384,6 +387,10 @@ public final class TwinLinks {
             list = new int[MAX_OBJECTS];
         }
 
+        static boolean isSlot(int slot) {
+            return slot >= 0 && slot < MAX_OBJECTS;
+        }
+
         int length() {
             return length;
         }
@@ -410,10 +417,6 @@ public final class TwinLinks {
             }
             length = 0;
         }
-    }
-
-    private static boolean isSlot(int slot) {
-        return slot >= 0 && slot < MAX_OBJECTS;
     }
 
     /** One side of all LINKS: for each LINK and slot a row of slots, packed, so that a saved LEVEL stays small. */
@@ -457,7 +460,7 @@ public final class TwinLinks {
         }
 
         void insert(int l, int slot, int i, int other) {
-            if (!isRow(l, slot) || !isSlot(other)) {
+            if (!isRow(l, slot) || !Slots.isSlot(other)) {
                 return;
             }
             int row = rowOf(l, slot);
@@ -562,11 +565,11 @@ public final class TwinLinks {
         }
 
         int numberOf(int slot) {
-            return isSlot(slot) ? numbers[slot] : NONE;
+            return Slots.isSlot(slot) ? numbers[slot] : NONE;
         }
 
         int kindOf(int slot) {
-            return isSlot(slot) ? kinds[slot] : NONE;
+            return Slots.isSlot(slot) ? kinds[slot] : NONE;
         }
 
         int admit(int number, int kind) {
@@ -759,7 +762,7 @@ public final class TwinLinks {
         private void noteSteps(int first, int far) {
             for (int i = first; i < reached.length(); i++) {
                 int slot = reached.get(i);
-                if (isSlot(slot)) {
+                if (Slots.isSlot(slot)) {
                     steps[slot] = far;
                 }
             }
@@ -898,7 +901,7 @@ public final class TwinLinks {
         int build(House house, int firstNumber) {
             for (int n = 0; n < old.length(); n++) {
                 int slot = old.get(n);
-                if (isSlot(slot)) {
+                if (Slots.isSlot(slot)) {
                     twins[slot] = house.admit(firstNumber + n, house.kindOf(slot));
                 }
             }
@@ -1030,7 +1033,7 @@ public final class TwinLinks {
         }
 
         private void demand(int first, int second) {
-            if (!isSlot(first) || !isSlot(second) || leaders[first] == leaders[second] || length >= MAX_OBJECTS) {
+            if (!Slots.isSlot(first) || !Slots.isSlot(second) || leaders[first] == leaders[second] || length >= MAX_OBJECTS) {
                 return;
             }
             firsts[length] = first;

@@ -360,6 +360,21 @@ public final class PromisesTest {
             drop 9 -> 4
             BACK 0 3 = 0
             """);
+        run("6: drop, barred twice", """
+            link 0 0 2 1 -> 0
+            link 0 0 2 2 -> 1
+            makes 0 9
+            set 0 8 3 -1 -> 1
+            set 0 3 1 -1 -> 1
+            set 0 8 5 -1 -> 2
+            set 0 8 4 -1 -> 3
+            set 1 1 0 -1 -> 1
+            set 1 5 0 -1 -> 1
+            set 1 4 7 -1 -> 1
+            set 1 4 6 -1 -> 2
+            drop 8 -> IllegalState
+            PATH = 8 4 6
+            """);
         run("6: drop, what is had by a link that bars goes freely", """
             link 0 1 2 2 -> 0
             make 0 -> 0
@@ -399,10 +414,12 @@ public final class PromisesTest {
             set 4 1 1 -1 -> 1
             set 5 6 7 -1 -> 1
             way 7 6 -> 2
+            count 5 -> 16
             copy 5 -> 10
             PATH = 7 5 6
             count 1 -> 12
             count 2 -> 12
+            count 5 -> 27
             ROW 0 10 = 11 9
             ROW 0 5 = 6 2
             BACK 0 10 =
@@ -480,6 +497,15 @@ public final class PromisesTest {
             drop 50 -> 1
             copy 0 -> IllegalState
             copy 5 -> 100
+            """);
+        run("7: copy, a full row among the old ones takes no room", """
+            link 0 0 2 1 -> 0
+            link 0 0 2 0 -> 1
+            makes 0 12
+            """ + lines("set 0 0 %d -1 -> %1$d", 1, 12) + lines("set 1 %d 5 -1 -> 1", 0, 12) + """
+            copy 0 -> 12
+            BACK 1 17 = 12 13 14 15 16 17 18 19 20 21 22 23
+            BACK 1 5 = 0 1 2 3 4 5 6 7 8 9 10 11
             """);
         run("7: copy, no room for a row", """
             link 0 0 2 1 -> 0
@@ -729,6 +755,12 @@ public final class PromisesTest {
             count 5 -> 2
             end true -> IllegalState
             make 0 -> 6
+            begin -> 1
+            drop 6 -> 1
+            make 9 -> 7
+            end false -> 0
+            ask 6 0 -> 0
+            ask 7 0 -> NoSuchElement
             begin -> 1
             drop 6 -> 1
             end true -> 0
