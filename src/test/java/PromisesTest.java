@@ -1,7 +1,5 @@
 /** Each promise of the document by itself: ordinary inputs, the edges that it names, wrong inputs. */
 public final class PromisesTest {
-    private static final int LEAST = Integer.MIN_VALUE;
-    private static final int MOST = Integer.MAX_VALUE;
     private static final Due DUE = new Due("PromisesTest");
 
     public static void main(String[] args) {
@@ -66,7 +64,7 @@ public final class PromisesTest {
             link 0 0 0 -1 -> IllegalArgument
             link 0 0 0 3 -> IllegalArgument
             count 0 -> 2
-            """ + lines("link 3 3 1 1 -> %d", 2, 10) + """
+            """ + Script.lines("link 3 3 1 1 -> %d", 2, 10) + """
             link 0 0 2 1 -> IllegalState
             link 0 0 2 3 -> IllegalArgument
             count 0 -> 10
@@ -210,8 +208,8 @@ public final class PromisesTest {
             link 0 0 2 0 -> 0
             link 0 0 1 0 -> 1
             makes 0 30
-            """ + lines("set 0 0 %d -1 -> %1$d", 1, 13) + lines("set 0 %d 20 -1 -> 1", 1, 13)
-            + lines("set 1 0 %d -1 -> %1$d", 1, 13) + """
+            """ + Script.lines("set 0 0 %d -1 -> %d", 1, 13) + Script.lines("set 0 %d 20 -1 -> 1", 1, 13)
+            + Script.lines("set 1 0 %d -1 -> %d", 1, 13) + """
             set 1 29 28 -1 -> 1
             set 0 0 13 -1 -> IllegalState
             set 0 0 13 13 -> IndexOutOfBounds
@@ -242,18 +240,18 @@ public final class PromisesTest {
             set -1 0 1 -1 -> IllegalArgument
             set 2 7 7 -1 -> IllegalArgument
             set 0 7 7 -2 -> IllegalArgument
-            set 0 0 1 %d -> IllegalArgument
-            set 0 0 1 %d -> IndexOutOfBounds
+            set 0 0 1 LEAST -> IllegalArgument
+            set 0 0 1 MOST -> IndexOutOfBounds
             set 0 7 0 9 -> NoSuchElement
             set 0 1 7 9 -> NoSuchElement
             set 0 -1 1 9 -> NoSuchElement
             set 0 0 -1 9 -> NoSuchElement
-            set 0 %d 1 -1 -> NoSuchElement
+            set 0 MOST 1 -1 -> NoSuchElement
             set 0 1 1 9 -> ClassCast
             set 0 0 0 9 -> ClassCast
             set 1 0 0 9 -> UnsupportedOperation
             count 5 -> 0
-            """.formatted(LEAST, MOST, MOST));
+            """);
     }
 
     private static void cut() {
@@ -502,7 +500,7 @@ public final class PromisesTest {
             link 0 0 2 1 -> 0
             link 0 0 2 0 -> 1
             makes 0 12
-            """ + lines("set 0 0 %d -1 -> %1$d", 1, 12) + lines("set 1 %d 5 -1 -> 1", 0, 12) + """
+            """ + Script.lines("set 0 0 %d -1 -> %d", 1, 12) + Script.lines("set 1 %d 5 -1 -> 1", 0, 12) + """
             copy 0 -> 12
             BACK 1 17 = 12 13 14 15 16 17 18 19 20 21 22 23
             BACK 1 5 = 0 1 2 3 4 5 6 7 8 9 10 11
@@ -512,7 +510,7 @@ public final class PromisesTest {
             link 0 0 2 2 -> 1
             makes 0 14
             set 0 0 1 -1 -> 1
-            """ + lines("set 1 %d 13 -1 -> 1", 0, 11) + """
+            """ + Script.lines("set 1 %d 13 -1 -> 1", 0, 11) + """
             copy 0 -> IllegalState
             count 1 -> 14
             count 2 -> 14
@@ -582,14 +580,14 @@ public final class PromisesTest {
             at 0 0 1 -> 1
             at 0 0 2 -> IndexOutOfBounds
             at 0 0 -1 -> IndexOutOfBounds
-            at 0 0 %d -> IndexOutOfBounds
-            at 0 0 %d -> IndexOutOfBounds
+            at 0 0 MOST -> IndexOutOfBounds
+            at 0 0 LEAST -> IndexOutOfBounds
             at 1 9 0 -> IllegalArgument
             at -1 9 0 -> IllegalArgument
             at 0 9 -1 -> NoSuchElement
             at 0 -1 -1 -> NoSuchElement
             at 0 1 -1 -> ClassCast
-            """.formatted(MOST, LEAST));
+            """);
     }
 
     private static void back() {
@@ -604,14 +602,14 @@ public final class PromisesTest {
             back 0 2 1 -> 0
             back 0 2 2 -> IndexOutOfBounds
             back 0 2 -1 -> IndexOutOfBounds
-            back 0 2 %d -> IndexOutOfBounds
-            back 0 2 %d -> IndexOutOfBounds
+            back 0 2 MOST -> IndexOutOfBounds
+            back 0 2 LEAST -> IndexOutOfBounds
             back 1 9 0 -> IllegalArgument
             back -1 9 0 -> IllegalArgument
             back 0 9 -1 -> NoSuchElement
             back 0 -1 -1 -> NoSuchElement
             back 0 0 -1 -> ClassCast
-            """.formatted(MOST, LEAST));
+            """);
     }
 
     private static void ask() {
@@ -718,11 +716,11 @@ public final class PromisesTest {
             path 2 -> 2
             path 3 -> IndexOutOfBounds
             path -1 -> IndexOutOfBounds
-            path %d -> IndexOutOfBounds
-            path %d -> IndexOutOfBounds
+            path MOST -> IndexOutOfBounds
+            path LEAST -> IndexOutOfBounds
             drop 0 -> 3
             PATH = 0 1 2
-            """.formatted(MOST, LEAST));
+            """);
     }
 
     private static void levels() {
@@ -766,7 +764,7 @@ public final class PromisesTest {
             end true -> 0
             ask 6 0 -> NoSuchElement
             """);
-        run("15: begin, at most 12", lines("begin -> %d", 1, 13) + """
+        run("15: begin, at most 12", Script.lines("begin -> %d", 1, 13) + """
             begin -> IllegalState
             count 3 -> 12
             make 0 -> 0
@@ -888,13 +886,5 @@ public final class PromisesTest {
             alike 51 101 -> 0
             ask 148 3 -> 48
             """);
-    }
-
-    private static String lines(String form, int first, int above) {
-        StringBuilder all = new StringBuilder();
-        for (int n = first; n < above; n++) {
-            all.append(form.formatted(n)).append('\n');
-        }
-        return all.toString();
     }
 }
