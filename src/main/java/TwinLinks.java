@@ -1033,7 +1033,10 @@ public final class TwinLinks {
         }
 
         private void demand(int first, int second) {
-            if (!Slots.isSlot(first) || !Slots.isSlot(second) || leaders[first] == leaders[second] || length >= MAX_OBJECTS) {
+            if (!Slots.isSlot(first) || !Slots.isSlot(second) || length >= MAX_OBJECTS) {
+                return;
+            }
+            if (leaders[first] == leaders[second]) {
                 return;
             }
             firsts[length] = first;

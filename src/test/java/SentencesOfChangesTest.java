@@ -460,6 +460,19 @@ public final class SentencesOfChangesTest {
             ROW 0 4 = 1
             ROW 3 1 = 1
             ROW 2 1 = 3
+            """, """
+            link 0 0 2 2 -> 0
+            makes 0 2
+            set 0 1 0 -1 -> 1
+            drop 1 -> IllegalState
+            PATH = 1 0
+            drop 0 -> 1
+            drop 1 -> 1
+            """, Script.lines("link 0 0 0 2 -> %d", 0, 10) + """
+            makes 0 2
+            set 9 0 1 -1 -> 1
+            drop 0 -> IllegalState
+            PATH = 0 1
             """);
         document.says("Else GONE and all that HAS or IS HAD by them goes. Answers how many.", """
             link 0 0 2 2 -> 0
@@ -740,6 +753,20 @@ public final class SentencesOfChangesTest {
             BACK 1 20 = 1 2 3 4 5 6 31 32 33 35 36 37
             copy 7 -> 38
             """,
+            "link 0 0 2 0 -> 0\nmakes 0 14\n" + Script.lines("set 0 %d 0 -1 -> 1", 1, 13) + """
+            copy 1 -> IllegalState
+            copy 13 -> 14
+            copy 0 -> 15
+            cut 0 12 0 -> 1
+            copy 1 -> 16
+            BACK 0 0 = 1 2 3 4 5 6 7 8 9 10 11 16
+            """,
+            Script.lines("link 0 0 2 0 -> %d", 0, 10) + "makes 0 100\n"
+            + Script.lines("set 9 %d 99 -1 -> 1", 0, 12) + """
+            drop 50 -> 1
+            copy 0 -> IllegalState
+            copy 99 -> 100
+            """,
             "link 0 0 2 1 -> 0\nlink 0 0 2 2 -> 1\nmakes 0 30\n" + Script.lines("set 0 0 %d -1 -> %d", 1, 8)
             + Script.lines("set 1 %d 20 -1 -> 1", 1, 8) + """
             copy 0 -> IllegalState
@@ -794,9 +821,21 @@ public final class SentencesOfChangesTest {
             end false -> 0
             end false -> IllegalState
             ask 0 0 -> 0
-            """, Script.lines("begin -> %d", 1, 13) + "end false -> 11\nend true -> 10\nend false -> 9\nend true -> 8\n"
-            + "end true -> 7\nend true -> 6\nend true -> 5\nend true -> 4\nend true -> 3\nend true -> 2\nend true -> 1\n"
-            + "end true -> 0\nend true -> IllegalState\n");
+            """, Script.lines("begin -> %d", 1, 13) + """
+            end false -> 11
+            end true -> 10
+            end false -> 9
+            end true -> 8
+            end true -> 7
+            end true -> 6
+            end true -> 5
+            end true -> 4
+            end true -> 3
+            end true -> 2
+            end true -> 1
+            end true -> 0
+            end true -> IllegalState
+            """);
         document.says("Not kept: all is as it was when it began. Answers how many are left.", """
             link 0 0 2 0 -> 0
             makes 0 3

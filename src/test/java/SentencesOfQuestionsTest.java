@@ -10,6 +10,7 @@ public final class SentencesOfQuestionsTest {
         SentencesOfQuestionsTest promises = new SentencesOfQuestionsTest();
         promises.alike();
         promises.alikeToTheEnd();
+        promises.alikeByManyWays();
         promises.at();
         promises.back();
         promises.ask();
@@ -108,6 +109,25 @@ public final class SentencesOfQuestionsTest {
             """);
     }
 
+    /** So many ways lead down that a pair of OBJECTS may come up again and again before the last one does. */
+    private void alikeByManyWays() {
+        StringBuilder ladder = new StringBuilder(Script.chain(48));
+        for (int x = 0; x < 46; x++) {
+            ladder.append("set 0 %d %d 0 -> 2%n".formatted(x, x + 2));
+        }
+        document.says("Whether x and y are ALIKE", ladder + """
+            copy 0 -> 48
+            make 0 -> 96
+            alike 0 48 -> 1
+            alike 0 49 -> 0
+            set 0 95 96 -1 -> 1
+            alike 0 48 -> 0
+            alike 48 0 -> 0
+            set 0 47 96 -1 -> 1
+            alike 0 48 -> 1
+            """);
+    }
+
     private static String twoFullRows() {
         StringBuilder all = new StringBuilder();
         for (int n = 1; n <= 12; n++) {
@@ -179,7 +199,7 @@ public final class SentencesOfQuestionsTest {
     }
 
     private void ask() {
-        document.says("`int ask(int x, int what) throws IllegalArgumentException, java.util.NoSuchElementException`", """
+        document.says("what 0: its KIND", """
             make 7 -> 0
             ask 0 0 -> 7
             ask 0 1 -> 0
@@ -462,7 +482,7 @@ public final class SentencesOfQuestionsTest {
     }
 
     private void count() {
-        document.says("`int count(int what) throws IllegalArgumentException`", """
+        document.says("`int count(int what) throws IllegalArgumentException`: what 0: LINKS", """
             count -1 -> IllegalArgument
             count 6 -> IllegalArgument
             count LEAST -> IllegalArgument

@@ -1,6 +1,6 @@
 import java.io.IOException;
 
-/** The sentences of 'What it is' and of 'Terms' that name a boundary: the last that is allowed, the first that is not. */
+/** The sentences of 'What it is' and 'Terms' that name a boundary: the last that is allowed, the first that is not. */
 public final class TermsTest {
     private final Sentences document = new Sentences("TermsTest");
 
@@ -103,7 +103,8 @@ public final class TermsTest {
     }
 
     private void kinds() {
-        document.says("and a KIND 0 .. 9", Script.lines("make %d -> %d", 0, 10) + Script.lines("ask %d 0 -> %d", 0, 10) + """
+        document.says("and a KIND 0 .. 9",
+            Script.lines("make %d -> %d", 0, 10) + Script.lines("ask %d 0 -> %d", 0, 10) + """
             make -1 -> IllegalArgument
             make 10 -> IllegalArgument
             make LEAST -> IllegalArgument
@@ -410,7 +411,8 @@ public final class TermsTest {
     }
 
     private void ringPath() {
-        document.says("PATH is the shortest way from the y of the call to its x, each OWNING the next", Script.chain(100) + """
+        document.says("PATH is the shortest way from the y of the call to its x, each OWNING the next",
+            Script.chain(100) + """
             set 0 99 0 -1 -> UnsupportedOperation
             count 4 -> 100
             path 0 -> 0
