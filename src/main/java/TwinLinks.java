@@ -413,7 +413,10 @@ public final class TwinLinks {
 
         void clear() {
             for (int i = 0; i < length; i++) {
-                inside[list[i]] = false;
+                int slot = list[i];
+                if (isSlot(slot)) {
+                    inside[slot] = false;
+                }
             }
             length = 0;
         }

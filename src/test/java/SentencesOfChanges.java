@@ -1,13 +1,13 @@
-import java.io.IOException;
+/** The sentences of promises 1 to 7, 15 and 16: what changes the house. */
+final class SentencesOfChanges {
+    private final Sentences document;
 
-/** The sentences of promises 1 to 7, 15 and 16 that name a boundary: what changes the house. */
-public final class SentencesOfChangesTest {
-    private final Sentences document = new Sentences("SentencesOfChangesTest");
+    private SentencesOfChanges(Sentences document) {
+        this.document = document;
+    }
 
-    private SentencesOfChangesTest() throws IOException { }
-
-    public static void main(String[] args) throws IOException {
-        SentencesOfChangesTest promises = new SentencesOfChangesTest();
+    static void all(Sentences document) {
+        SentencesOfChanges promises = new SentencesOfChanges(document);
         promises.newObject();
         promises.link();
         promises.linkInLevels();
@@ -31,7 +31,6 @@ public final class SentencesOfChangesTest {
         promises.copyRoomForRows();
         promises.begin();
         promises.end();
-        promises.document.close();
     }
 
     private void newObject() {
@@ -163,7 +162,7 @@ public final class SentencesOfChangesTest {
     }
 
     private void setPlace() {
-        document.says("in place i of its row (from 0; -1: at the end; below: out of range)", """
+        document.says("x comes to HAVE y by l, in place i of its row (from 0; -1: at the end; below: out of range)", """
             link 0 0 2 0 -> 0
             makes 0 6
             set 0 0 1 -2 -> IllegalArgument
@@ -198,7 +197,7 @@ public final class SentencesOfChangesTest {
     }
 
     private void setAgain() {
-        document.says("y is taken out of the row, and comes to place i of what is left"
+        document.says("It HAS y already: y is taken out of the row, and comes to place i of what is left"
                 + " (above its end: IndexOutOfBoundsException)", """
             link 0 0 2 1 -> 0
             makes 0 4
@@ -241,7 +240,7 @@ public final class SentencesOfChangesTest {
     }
 
     private void setTakesAway() {
-        document.says("with FORM 0 what x had it has no more; with FORM 0, 1 who HAS y has it no more", """
+        document.says("Else, with FORM 0 what x had it has no more; with FORM 0, 1 who HAS y has it no more", """
             link 0 0 0 1 -> 0
             link 0 0 1 1 -> 1
             link 0 0 2 1 -> 2
@@ -379,7 +378,8 @@ public final class SentencesOfChangesTest {
     }
 
     private void drop() {
-        document.says("all OBJECTS that are OWNED, and whose OWNERS are all GONE", """
+        document.says("x goes, with GONE: x, and, as long as there are such, all OBJECTS that are OWNED,"
+                + " and whose OWNERS are all GONE.", """
             link 0 0 2 1 -> 0
             link 0 0 2 0 -> 1
             makes 0 7
@@ -488,7 +488,7 @@ public final class SentencesOfChangesTest {
     }
 
     private void dropBarredPath() {
-        document.says("(the first: fewest steps from x over what OWNS within GONE, then least NUMBER)", """
+        document.says("One of GONE (the first: fewest steps from x over what OWNS within GONE, then least NUMBER)", """
             link 0 0 2 1 -> 0
             link 0 0 2 2 -> 1
             makes 0 12
@@ -564,7 +564,8 @@ public final class SentencesOfChangesTest {
     }
 
     private void copyObjects() {
-        document.says("new OBJECTS of the same KINDS, in the order of the old ones' NUMBERS", """
+        document.says("A copy of x with all that is UNDER it: new OBJECTS of the same KINDS,"
+                + " in the order of the old ones' NUMBERS", """
             link 1 0 2 1 -> 0
             link 0 9 2 1 -> 1
             make 9 -> 0

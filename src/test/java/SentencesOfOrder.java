@@ -1,10 +1,8 @@
-import java.io.IOException;
-
 /**
  * 'What is thrown, in this order': for each call, each two faults that can meet in it. (drop, alike, way, path, begin,
  * end and count have no two that can meet.)
  */
-public final class OrderTest {
+final class SentencesOfOrder {
     private static final String ORDER = "What is thrown, in this order: IllegalArgumentException: a number out of range"
         + " (l and KINDS too; a LINK that is not told); NoSuchElementException: an OBJECT that is not there;"
         + " ClassCastException: one of another KIND than the LINK asks there; then as told.";
@@ -19,12 +17,14 @@ public final class OrderTest {
         makes 1 2
         """;
 
-    private final Sentences document = new Sentences("OrderTest");
+    private final Sentences document;
 
-    private OrderTest() throws IOException { }
+    private SentencesOfOrder(Sentences document) {
+        this.document = document;
+    }
 
-    public static void main(String[] args) throws IOException {
-        OrderTest order = new OrderTest();
+    static void all(Sentences document) {
+        SentencesOfOrder order = new SentencesOfOrder(document);
         order.full();
         order.set();
         order.setRing();
@@ -34,7 +34,6 @@ public final class OrderTest {
         order.copy();
         order.places();
         order.questions();
-        order.document.close();
     }
 
     private void full() {

@@ -1,13 +1,13 @@
-import java.io.IOException;
+/** The sentences of promises 8 to 14 and 17: what only looks at the house. */
+final class SentencesOfQuestions {
+    private final Sentences document;
 
-/** The sentences of promises 8 to 14 and 17 that name a boundary: what only looks at the house. */
-public final class SentencesOfQuestionsTest {
-    private final Sentences document = new Sentences("SentencesOfQuestionsTest");
+    private SentencesOfQuestions(Sentences document) {
+        this.document = document;
+    }
 
-    private SentencesOfQuestionsTest() throws IOException { }
-
-    public static void main(String[] args) throws IOException {
-        SentencesOfQuestionsTest promises = new SentencesOfQuestionsTest();
+    static void all(Sentences document) {
+        SentencesOfQuestions promises = new SentencesOfQuestions(document);
         promises.alike();
         promises.alikeToTheEnd();
         promises.alikeByManyWays();
@@ -24,7 +24,6 @@ public final class SentencesOfQuestionsTest {
         promises.pathStays();
         promises.count();
         promises.countFull();
-        promises.document.close();
     }
 
     private void alike() {

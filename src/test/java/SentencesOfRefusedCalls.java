@@ -1,7 +1,5 @@
-import java.io.IOException;
-
 /** Each call with each wrong number in each of its places; Script looks at the state behind each of them. */
-public final class RefusedCallsTest {
+final class SentencesOfRefusedCalls {
     /**
      * LINK 0 leads from KIND 0 to KIND 1, LINK 1 from 1 to 0 and OWNS. There are 0 and 1 of KIND 0, 2 and 3 of KIND 1;
      * 4 is dropped, 5 and its making are taken back, 6 is not yet given.
@@ -94,17 +92,17 @@ public final class RefusedCallsTest {
         count 1 -> 5
         """;
 
-    private final Sentences document = new Sentences("RefusedCallsTest");
+    private final Sentences document;
 
-    private RefusedCallsTest() throws IOException { }
+    private SentencesOfRefusedCalls(Sentences document) {
+        this.document = document;
+    }
 
-    public static void main(String[] args) throws IOException {
-        RefusedCallsTest refused = new RefusedCallsTest();
+    static void all(Sentences document) {
+        SentencesOfRefusedCalls refused = new SentencesOfRefusedCalls(document);
         refused.objects();
         refused.links();
         refused.kinds();
-        refused.rules();
-        refused.document.close();
     }
 
     private static String with(String number, String calls) {
@@ -126,36 +124,5 @@ public final class RefusedCallsTest {
 
     private void kinds() {
         document.says("ClassCastException: one of another KIND than the LINK asks there", with("", OF_ANOTHER_KIND));
-    }
-
-    /** The same calls by LINKS of each RULE: what a RULE refuses, the others allow. */
-    private void rules() {
-        document.says("and a RULE: 0 loose, 1 OWNS, 2 BARS", ruleRun(0) + """
-            set 0 1 0 -1 -> 1
-            set 0 0 0 -1 -> 2
-            ask 1 1 -> 0
-            way 0 1 -> -1
-            drop 0 -> 1
-            count 1 -> 1
-            """, ruleRun(1) + """
-            set 0 1 0 -1 -> UnsupportedOperation
-            set 0 0 0 -1 -> UnsupportedOperation
-            ask 1 1 -> 1
-            way 0 1 -> 1
-            drop 0 -> 2
-            count 1 -> 0
-            """, ruleRun(2) + """
-            set 0 1 0 -1 -> 1
-            set 0 0 0 -1 -> 2
-            ask 1 1 -> 0
-            way 0 1 -> -1
-            drop 0 -> IllegalState
-            PATH = 0 1
-            count 1 -> 2
-            """);
-    }
-
-    private static String ruleRun(int rule) {
-        return "link 0 0 2 " + rule + " -> 0\nmakes 0 2\nset 0 0 1 -1 -> 1\n";
     }
 }

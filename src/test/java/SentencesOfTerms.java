@@ -1,19 +1,22 @@
-import java.io.IOException;
+/** The sentences of 'What it is' and 'Terms'. */
+final class SentencesOfTerms {
+    private final Sentences document;
 
-/** The sentences of 'What it is' and 'Terms' that name a boundary: the last that is allowed, the first that is not. */
-public final class TermsTest {
-    private final Sentences document = new Sentences("TermsTest");
+    private SentencesOfTerms(Sentences document) {
+        this.document = document;
+    }
 
-    private TermsTest() throws IOException { }
-
-    public static void main(String[] args) throws IOException {
-        TermsTest terms = new TermsTest();
+    static void all(Sentences document) {
+        SentencesOfTerms terms = new SentencesOfTerms(document);
+        terms.house();
         terms.calls();
         terms.numbers();
         terms.kinds();
         terms.objects();
         terms.links();
         terms.forms();
+        terms.rules();
+        terms.rowsOfForms();
         terms.rows();
         terms.bothSides();
         terms.owners();
@@ -24,7 +27,41 @@ public final class TermsTest {
         terms.levelsTakenBack();
         terms.levelsWithinOneAnother();
         terms.refusedCallsInLevels();
-        terms.document.close();
+    }
+
+    private void house() {
+        document.says("A house of links that are told on both sides: one to one, one to many, many to many, in rows",
+            formRun(0));
+        document.says("owners whose parts go with them, links that bar a drop, moves, copies of all that is owned,"
+                + " and levels that are taken back.", """
+            link 0 1 1 1 -> 0
+            link 1 2 2 2 -> 1
+            makes 0 2
+            makes 1 2
+            make 2 -> 4
+            set 0 0 2 -1 -> 1
+            set 0 0 3 -1 -> 2
+            set 1 3 4 -1 -> 1
+            drop 0 -> IllegalState
+            PATH = 0 3 4
+            copy 0 -> 5
+            ROW 0 5 = 6 7
+            ROW 1 7 = 4
+            BACK 1 4 = 3 7
+            set 0 1 3 -1 -> 1
+            ROW 0 0 = 2
+            set 0 0 3 0 -> 2
+            ROW 0 0 = 3 2
+            begin -> 1
+            cut 1 3 4 -> 1
+            drop 0 -> 3
+            count 1 -> 5
+            end false -> 0
+            count 1 -> 8
+            ROW 0 0 = 3 2
+            ROW 1 3 = 4
+            BACK 1 4 = 3 7
+            """);
     }
 
     private void calls() {
@@ -39,7 +76,8 @@ public final class TermsTest {
         for (int n = 0; n < 206; n++) {
             copiesAndDrops.append("copy 0 -> %d%ndrop %d -> 50%n".formatted(50 + 50 * n, 50 + 50 * n));
         }
-        document.says("An object is used for at most 512 calls after it has been made",
+        document.says("An object is used for at most 512 calls after it has been made;"
+                + " what later calls answer is free.",
             makesAndDrops + "count 2 -> 255\n", copiesAndDrops.toString(),
             "begin -> 1\nend false -> 0\n".repeat(256),
             Script.lines("begin -> %d", 1, 13) + "begin -> IllegalState\n".repeat(499) + "end true -> 11\n",
@@ -206,22 +244,101 @@ public final class TermsTest {
     }
 
     private void forms() {
-        document.says("in an order (FORM 0: at most one)", """
+        document.says("with a FORM: 0 one to one, 1 one to many, 2 many to many", formRun(0), formRun(1), formRun(2));
+    }
+
+    /** The same calls by a LINK of each FORM, whatever their RULE. */
+    private static String formRun(int rule) {
+        return """
+            link 0 1 0 RULE -> 0
+            link 0 1 1 RULE -> 1
+            link 0 1 2 RULE -> 2
+            makes 0 2
+            makes 1 2
+            set 0 0 2 -1 -> 1
+            set 0 0 3 -1 -> 1
+            ROW 0 0 = 3
+            set 0 1 3 -1 -> 1
+            ROW 0 0 =
+            ROW 0 1 = 3
+            BACK 0 2 =
+            BACK 0 3 = 1
+            set 1 0 2 -1 -> 1
+            set 1 0 3 0 -> 2
+            ROW 1 0 = 3 2
+            set 1 1 3 -1 -> 1
+            ROW 1 0 = 2
+            ROW 1 1 = 3
+            BACK 1 2 = 0
+            BACK 1 3 = 1
+            set 2 0 2 -1 -> 1
+            set 2 0 3 0 -> 2
+            set 2 1 3 -1 -> 1
+            ROW 2 0 = 3 2
+            ROW 2 1 = 3
+            BACK 2 2 = 0
+            BACK 2 3 = 0 1
+            count 5 -> 6
+            """.replace("RULE", Integer.toString(rule));
+    }
+
+    private void rules() {
+        String house = "link 0 0 FORM RULE -> 0\nmakes 0 2\nset 0 0 1 -1 -> 1\n";
+        for (String form : new String[] {"0", "1", "2"}) {
+            String[] rules = new String[3];
+            for (int rule = 0; rule < rules.length; rule++) {
+                rules[rule] = house.replace("FORM", form).replace("RULE", Integer.toString(rule));
+            }
+            document.says("and a RULE: 0 loose, 1 OWNS, 2 BARS.", rules[0] + """
+                ask 1 1 -> 0
+                way 0 1 -> -1
+                set 0 1 0 -1 -> 1
+                drop 0 -> 1
+                count 1 -> 1
+                """, rules[1] + """
+                ask 1 1 -> 1
+                way 0 1 -> 1
+                set 0 1 0 -1 -> UnsupportedOperation
+                PATH = 0 1
+                drop 0 -> 2
+                count 1 -> 0
+                """, rules[2] + """
+                ask 1 1 -> 0
+                way 0 1 -> -1
+                set 0 1 0 -1 -> 1
+                drop 0 -> IllegalState
+                PATH = 0 1
+                count 1 -> 2
+                """);
+        }
+    }
+
+    private void rowsOfForms() {
+        document.says("An OBJECT x of KIND a HAS by l a row of OBJECTS of KIND b,"
+                + " in an order (FORM 0: at most one)", """
             link 0 1 0 0 -> 0
             link 0 1 1 0 -> 1
             link 0 1 2 0 -> 2
             make 0 -> 0
-            makes 1 2
+            makes 1 3
+            ROW 0 0 =
+            size 0 1 0 -> ClassCast
+            set 0 0 0 -1 -> ClassCast
             set 0 0 1 -1 -> 1
             set 0 0 2 -1 -> 1
             ROW 0 0 = 2
             BACK 0 1 =
             set 1 0 1 -1 -> 1
             set 1 0 2 -1 -> 2
+            set 1 0 3 1 -> 3
+            ROW 1 0 = 1 3 2
             set 2 0 1 -1 -> 1
-            set 2 0 2 -1 -> 2
+            set 2 0 2 0 -> 2
+            set 2 0 3 -1 -> 3
+            ROW 2 0 = 2 1 3
             """);
-        document.says("in the order in which they came to have it (FORM 0, 1: at most one)", """
+        document.says("an OBJECT y of KIND b IS HAD by l by a row of OBJECTS,"
+                + " in the order in which they came to have it (FORM 0, 1: at most one)", """
             link 0 1 0 0 -> 0
             link 0 1 1 0 -> 1
             link 0 1 2 0 -> 2
@@ -309,7 +426,8 @@ public final class TermsTest {
     }
 
     private void owners() {
-        document.says("y's OWNERS are those that OWN it, by whatever LINK", """
+        document.says("x OWNS y: it HAS it by a LINK that OWNS;"
+                + " y's OWNERS are those that OWN it, by whatever LINK", """
             link 0 0 0 1 -> 0
             link 0 0 1 1 -> 1
             link 0 0 2 1 -> 2
@@ -322,6 +440,12 @@ public final class TermsTest {
             set 2 0 5 -1 -> 1
             set 3 3 5 -1 -> 1
             set 4 4 5 -1 -> 1
+            ask 0 4 -> 1
+            ask 1 4 -> 1
+            ask 2 4 -> 1
+            ask 3 4 -> 0
+            ask 4 4 -> 0
+            ask 5 4 -> 0
             ask 5 1 -> 3
             drop 0 -> 1
             ask 5 1 -> 2
@@ -448,7 +572,8 @@ public final class TermsTest {
     }
 
     private void levels() {
-        document.says("changes (made, dropped, links, rows) since a LEVEL began are kept or taken back as a whole", """
+        document.says("LEVELS: changes (made, dropped, links, rows) since a LEVEL began"
+                + " are kept or taken back as a whole", """
             link 0 0 2 1 -> 0
             link 0 0 0 0 -> 1
             makes 0 5
